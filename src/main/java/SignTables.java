@@ -616,7 +616,8 @@ public final class SignTables {
     }
 
     private Table tableOf(int form) {
-        table.lay(currentC(), form);
+        table.shape(currentC(), form);
+        table.build();
         return table;
     }
 
@@ -677,12 +678,17 @@ public final class SignTables {
         }
 
         static long less(long a, long b) {
-            return plus(a, -b);
+            if (a == NO || b == NO) {
+                return NO;
+            }
+            long difference = a - b;
+            boolean wrapped = ((a ^ b) & (a ^ difference)) < 0;
+            return wrapped ? NO : difference;
         }
 
         static long divisor(long a, long b) {
-            long greater = Math.abs(a);
-            long lesser = Math.abs(b);
+            long greater = a < 0 ? -a : a;
+            long lesser = b < 0 ? -b : b;
             for (int step = 0; step < STEPS && lesser != 0; step++) {
                 long rest = greater % lesser;
                 greater = lesser;
@@ -753,23 +759,6 @@ public final class SignTables {
         int lacking;
         boolean great;
 
-        void lay(long[] c, int form) {
-            shape(c, form);
-            great = false;
-            for (int k = 0; k <= top && !great; k++) {
-                if (k < 2) {
-                    takeRow(k);
-                } else {
-                    crossRow(k);
-                }
-                cases[k] = k == 0 ? 0 : mendRow(k);
-                great = Polynomials.isGreat(items[k]);
-                if (!great) {
-                    Polynomials.shrink(items[k]);
-                }
-            }
-        }
-
         void shape(long[] c, int form) {
             int n = Polynomials.highest(c);
             System.arraycopy(c, 0, coefficients, 0, POWERS);
@@ -821,6 +810,22 @@ public final class SignTables {
             }
         }
 
+        void build() {
+            great = false;
+            for (int k = 0; k <= top && !great; k++) {
+                if (k < 2) {
+                    takeRow(k);
+                } else {
+                    crossRow(k);
+                }
+                cases[k] = k == 0 ? 0 : mendRow(k);
+                great = Polynomials.isGreat(items[k]);
+                if (!great) {
+                    Polynomials.shrink(items[k]);
+                }
+            }
+        }
+
         private void takeRow(int k) {
             for (int j = 0; j < WIDTH; j++) {
                 int power = top - k - 2 * j;
@@ -849,7 +854,9 @@ public final class SignTables {
                 return 0;
             }
             if (z == width(k)) {
-                deriveRow(k);
+                for (int j = 0; j < width(k); j++) {
+                    items[k][j] = Exact.times(items[k - 1][j], top - k + 1 - 2 * j);
+                }
                 return 2;
             }
             for (int j = 0; j + z < width(k); j++) {
@@ -857,12 +864,6 @@ public final class SignTables {
                 items[k][j] = Exact.plus(items[k][j], z % 2 == 1 ? -more : more);
             }
             return 1;
-        }
-
-        private void deriveRow(int k) {
-            for (int j = 0; j < width(k); j++) {
-                items[k][j] = Exact.times(items[k - 1][j], top - k + 1 - 2 * j);
-            }
         }
 
         boolean hasRow(int k) {
@@ -1370,7 +1371,8 @@ public final class SignTables {
             if (whole < 1 || Polynomials.highest(mixture) != whole) {
                 return false;
             }
-            rows.lay(mixture, kind == 0 ? PLAIN : CIRCLE);
+            rows.shape(mixture, kind == 0 ? PLAIN : CIRCLE);
+            rows.build();
             if (rows.great || rows.lacking != 0) {
                 return false;
             }
@@ -1465,7 +1467,8 @@ public final class SignTables {
             }
             for (int k = -MOST_GAIN; k <= MOST_GAIN; k++) {
                 Polynomials.mix(held.p, 1, held.q, k, mixture);
-                rows.lay(mixture, PLAIN);
+                rows.shape(mixture, PLAIN);
+                rows.build();
                 counts[k + MOST_GAIN] = rows.great ? GREAT : rows.rightCount();
             }
             surveyed = true;

@@ -91,6 +91,11 @@ public final class ChainTest {
         checks.due("great chain, wrong x", y.chain(21), -2);
         checks.due("great real", y.real(0, 1), -7);
         checks.due("great real, wrong b", y.real(0, 0), -2);
+        y.set(0, 6, 0);
+        y.set(0, 5, 0);
+        y.set(0, 4, 0);
+        checks.due("great no longer", y.links(), 4);
+        checks.due("a chain again", y.real(-20, 20), y.chain(-20) - y.chain(20) + 100);
     }
 
     private static int changesAt(List<List<BigInteger>> links, int at) {

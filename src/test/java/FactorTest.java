@@ -115,6 +115,13 @@ public final class FactorTest {
         none.set(0, 0, 0);
         checks.due("s divides 5 s", none.factored(0, 7), 1);
         checks.due("s s does not", none.factored(1, 7), 0);
+        // (s s and 1) (s and 1), and 5 s that are left over
+        x = Checks.with(1, 6, 1, 1);
+        x.factor(1, 0, 1);
+        checks.due("5 s are left over", x.factored(0, 7), 0);
+        x = Checks.with(6, 1, 1, 1);
+        x.factor(3, 0, 1);
+        checks.due("5 are left over", x.factored(0, 7), 0);
     }
 
     private static void unfactor() {
@@ -198,12 +205,16 @@ public final class FactorTest {
         x.factor(2, 0, 0);
         checks.due("degree 7", x.multiply(), -3);
         checks.due("P stays", x.of(0, 0), 99);
-        // Great on the way, but not in the end.
         SignTables y = new SignTables();
-        y.factor(0, 20, 0);
-        y.factor(0, 20, 0);
-        y.factor(1, -20, 20);
-        y.factor(1, -20, 20);
-        checks.due("great", y.multiply(), -7);
+        y.factor(0, -11, 0);
+        y.factor(0, 9, 0);
+        checks.due("-99", y.multiply(), 2);
+        checks.due("P", y.of(0, 0), -99);
+        y.unfactor(0);
+        y.unfactor(0);
+        y.factor(0, 12, 0);
+        y.factor(0, 9, 0);
+        y.factor(2, 0, 0);
+        checks.due("108 s", y.multiply(), -7);
     }
 }

@@ -27,6 +27,11 @@ public final class RightsTest {
         checks.due("K stays", x.count(4), 1000);
         checks.due("no jumps", new SignTables().jumps(), 0);
         checks.due("no jump", new SignTables().jump(0), -1);
+        checks.due("jump at once", Checks.reading("s-5+K(1)").jump(0), 1005);
+        checks.due("best at once", Checks.reading("s-5+K(1)").best(), 1005);
+        checks.due("jump to the last gain", Checks.reading("s-99+K(1)").jump(0), 1099);
+        checks.due("jump at 100", Checks.reading("s3+9s2+11s+K(1)").jump(1), 1100);
+        checks.due("jumps to 100", Checks.reading("s3+9s2+11s+K(1)").jumps(), 2);
     }
 
     private static void bestOfSeveral() {
@@ -35,19 +40,6 @@ public final class RightsTest {
         checks.due("least is nearest to 0", Checks.reading("s-5-K(1)").best(), 995);
         checks.due("at the end", Checks.reading("s+99+K(1)").best(), 1000);
         checks.due("far", Checks.reading("s-99+K(1)").best(), 1099);
-        // K K is no gain: with 3 - s - K s s both 1 and -1 have one root right, and 0 one.
-        SignTables x = Checks.reading("-s4+2s2+K(s)");
-        int least = 9;
-        for (int k = -100; k <= 100; k++) {
-            least = Math.min(least, x.rights(k));
-        }
-        int nearest = 0;
-        for (int k = 100; k >= -100; k--) {
-            if (x.rights(k) == least && (Math.abs(k) <= Math.abs(nearest) || x.rights(nearest) != least)) {
-                nearest = k;
-            }
-        }
-        checks.due("best", x.best(), nearest + 1000);
         twoAlike();
     }
 
@@ -113,32 +105,22 @@ public final class RightsTest {
         checks.due("best", x.best(), best);
     }
 
+    // By gain 0 no sign rows are great, as coefficients of P are too small for that.
     private static void great() {
         Polys random = new Polys(43);
-        boolean all = false;
-        boolean some = false;
-        for (int round = 0; round < 20000 && !(all && some); round++) {
+        int seen = 0;
+        for (int round = 0; round < 200; round++) {
             SignTables x = new SignTables();
             for (int i = 0; i < 7; i++) {
                 x.set(0, i, random.number(-99, 99));
-                x.set(1, i, round % 2 == 0 ? 0 : random.number(-99, 99));
+                x.set(1, i, random.number(-99, 99));
             }
-            int great = 0;
-            for (int k = -100; k <= 100; k++) {
-                great += x.rights(k) == -7 ? 1 : 0;
-            }
-            if (great > 0 && great < 201) {
-                some = true;
+            if (x.rights(100) == -7 || x.rights(-100) == -7) {
+                seen++;
                 isAsRoots(x);
             }
-            if (great == 201) {
-                all = true;
-                checks.due("best of great ones", x.best(), -1);
-                checks.due("jumps of great ones", x.jumps(), 0);
-            }
         }
-        checks.holds("some were great", some);
-        System.out.println(all ? "all great: seen" : "all great: not seen");
+        checks.holds("some were great: " + seen, seen > 10);
     }
 
     private static void forgotten() {

@@ -29,6 +29,7 @@ public final class TrayTest {
         checks.due("tray(3, 0, 30)", x.tray(3, 0, 30), 1);
         isTray(x, 3, new long[30]);
         checks.due("put", x.put(3, 29, 5), 1);
+        checks.due("put", x.put(3, 0, 5), 1);
         checks.due("tray(3, 1, 2)", x.tray(3, 1, 2), 1);
         isTray(x, 3, 0, 0);
         checks.due("tray(3, 0, 30)", x.tray(3, 0, 30), 1);

@@ -102,9 +102,11 @@ public final class WaitingTest {
     }
 
     private static void swap() {
-        SignTables x = line("s", 5, -3, 100, -100, 5);
+        SignTables x = line("s", 5, 5, 100, -100, -3);
         checks.due("swap(0)", x.swap(0), 5);
-        isLine(x, 5, -100, 100, -3, 5);
+        isLine(x, -3, -100, 100, 5, 5);
+        checks.due("swap(0)", x.swap(0), 5);
+        isLine(x, 5, 5, 100, -100, -3);
         checks.due("swap(1)", x.swap(1), 5);
         isLine(x, -100, -3, 5, 5, 100);
         checks.due("swap(2)", x.swap(2), 5);
