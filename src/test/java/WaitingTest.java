@@ -114,6 +114,9 @@ public final class WaitingTest {
         checks.due("swap(-1)", x.swap(-1), -2);
         checks.due("swap(3)", x.swap(3), -2);
         isLine(x, -3, 5, 5, 100, -100);
+        x = line("s", 2, -1);
+        checks.due("swap(1) of two", x.swap(1), 2);
+        isLine(x, -1, 2);
         for (int how = 0; how < 3; how++) {
             checks.due("swap of none", new SignTables().swap(how), 0);
             x = line("s", 9);
