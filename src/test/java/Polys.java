@@ -145,6 +145,27 @@ final class Polys {
         }
     }
 
+    /** Whether all roots lie left of the axis, by rows of numbers of any size. */
+    static boolean allLeft(List<BigInteger> c) {
+        int m = degree(c);
+        List<BigInteger> a = Rows.taken(c, m);
+        List<BigInteger> b = m < 1 ? a : Rows.taken(c, m - 1);
+        int sign = a.get(0).signum();
+        for (int k = 1; k <= m; k++) {
+            if (b.get(0).signum() != sign) {
+                return false;
+            }
+            List<BigInteger> next = new ArrayList<>();
+            for (int j = 0; j < a.size() - 1; j++) {
+                BigInteger item = b.get(0).multiply(a.get(j + 1)).subtract(a.get(0).multiply(Rows.at(b, j + 1)));
+                next.add(sign < 0 ? item.negate() : item);
+            }
+            a = b;
+            b = next;
+        }
+        return true;
+    }
+
     /** The links of a chain; TooGreat, if they are so. */
     static List<List<BigInteger>> chain(List<BigInteger> c) {
         List<List<BigInteger>> links = new ArrayList<>();
