@@ -4,7 +4,7 @@ public final class EdgesOfChainTest {
     private static final int LEAST = Integer.MIN_VALUE;
     private static final int MOST = Integer.MAX_VALUE;
 
-    public static void main(String[] args) throws ReflectiveOperationException {
+    public static void main(String[] args) {
         leastDegree();
         firstTwoLinks();
         aslongAsDegreeIsNoLess();
@@ -155,8 +155,20 @@ public final class EdgesOfChainTest {
     }
 
     // Terms 4: "(Longs; GREAT likewise." (a product, a difference that is none)
-    private static void greatLinks() throws ReflectiveOperationException {
-        checks.due("as the document's limits allow", great().links(), -7);
+    private static void greatLinks() {
+        checks.due("a product", great().links(), -7);
+        SignTables x = Checks.with(28, 1, 18, 35);
+        int[] q = {-27, 34, 7, 89};
+        for (int i = 0; i < 4; i++) {
+            x.set(1, i, q[i]);
+        }
+        x.gain(37);
+        checks.due("a difference of products that are some", x.links(), -7);
+        x.gain(1);
+        checks.due("by less", x.links(), 4);
+        if (!Inside.isOpen()) {
+            return;
+        }
         // 4 times -1.25 times 10 to the 18, less a square of 4.99 times 10 to the 18.
         checks.due("a difference", Inside.with(-1250000000000000000L, 2236067977L, 1).links(), -7);
         checks.due("a lesser one", Inside.with(-1000000000000000000L, 2036067977L, 1).links(), 3);
@@ -165,7 +177,10 @@ public final class EdgesOfChainTest {
     }
 
     // Terms 4: "GREAT likewise." (the least long)
-    private static void leastLong() throws ReflectiveOperationException {
+    private static void leastLong() {
+        if (!Inside.isOpen()) {
+            return;
+        }
         // 4 times -(2 to the 61), and 1.
         checks.due("the least long", Inside.with(-(1L << 61), 1, -1).links(), -7);
         checks.due("one less far", Inside.with(1 - (1L << 61), 1, -1).links(), 3);
@@ -173,8 +188,11 @@ public final class EdgesOfChainTest {
 
     // Terms 4: "A value: highest COEFFICIENT; times x and the next one, and so on.)" (no polynomial within the
     // document's limits is known to have such a value)
-    private static void greatValues() throws ReflectiveOperationException {
+    private static void greatValues() {
         long a = 1L << 62;
+        if (!Inside.isOpen()) {
+            return;
+        }
         SignTables x = Inside.with(1, a);
         checks.due("a product", x.chain(20), -7);
         checks.due("another", x.chain(-2), -7);
@@ -205,7 +223,12 @@ public final class EdgesOfChainTest {
         checks.due("without DEGREE", Checks.with().links(), -2);
         checks.due("of DEGREE 0", Checks.with(-99).links(), -2);
         checks.due("of DEGREE 1", Checks.with(-99, 1).links(), 2);
-        checks.due("great", great().links(), -7);
+        SignTables x = great();
+        checks.due("great", x.links(), -7);
+        x.set(0, 6, 0);
+        x.set(0, 5, 0);
+        x.set(0, 4, 0);
+        checks.due("great no more", x.links(), 4);
     }
 
     // Promise 20: "A COEFFICIENT of a LINK."

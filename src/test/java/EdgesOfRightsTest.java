@@ -4,7 +4,7 @@ public final class EdgesOfRightsTest {
     private static final int LEAST = Integer.MIN_VALUE;
     private static final int MOST = Integer.MAX_VALUE;
 
-    public static void main(String[] args) throws ReflectiveOperationException {
+    public static void main(String[] args) {
         eachGainInThought();
         greatOnes();
         jumpsAboveTheLeast();
@@ -195,7 +195,10 @@ public final class EdgesOfRightsTest {
     }
 
     // Promise 36: "NONE: all are GREAT." (by K = 0 the document's limits allow no such P)
-    private static void bestOfNone() throws ReflectiveOperationException {
+    private static void bestOfNone() {
+        if (!Inside.isOpen()) {
+            return;
+        }
         SignTables x = Inside.with(1, 1L << 32, 1L << 31, 1);
         checks.due("great", x.rights(0), -7);
         checks.due("great", x.rights(-100), -7);

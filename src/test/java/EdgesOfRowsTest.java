@@ -4,7 +4,7 @@ public final class EdgesOfRowsTest {
     private static final int LEAST = Integer.MIN_VALUE;
     private static final int MOST = Integer.MAX_VALUE;
 
-    public static void main(String[] args) throws ReflectiveOperationException {
+    public static void main(String[] args) {
         rowsThatThereAre();
         itemsThatThereAre();
         firstTwoRows();
@@ -198,8 +198,11 @@ public final class EdgesOfRowsTest {
 
     // Terms 2: "(Longs; a product, difference, sum that is none, or is the least long, makes the SIGN ROWS of
     // that FORM GREAT.)" (a product: those of a ROW, and those of CASE 2)
-    private static void greatProduct() throws ReflectiveOperationException {
+    private static void greatProduct() {
         checks.due("as the document's limits allow", great().roots(50, 0), -7);
+        if (!Inside.isOpen()) {
+            return;
+        }
         // Row 2 is 2 to the 32 times 2 to the 31, less 1: none.
         checks.due("a product", Inside.with(1, 1L << 32, 1L << 31, 1).roots(0, 0), -7);
         checks.due("half of it", Inside.with(1, 1L << 31, 1L << 31, 1).roots(0, 0), 0);
@@ -209,15 +212,28 @@ public final class EdgesOfRowsTest {
     }
 
     // Terms 2: "a product, difference, sum that is none" (a difference, of products that are some)
-    private static void greatDifference() throws ReflectiveOperationException {
+    private static void greatDifference() {
+        SignTables x = Checks.with(-28, 0, -93, 81);
+        int[] q = {-66, 76, -58, 16, 85, -23, 96};
+        for (int i = 0; i < 7; i++) {
+            x.set(1, i, q[i]);
+        }
+        x.gain(56);
+        checks.due("as the document's limits allow", x.roots(0, 0), -7);
         long a = 1162261467;
+        if (!Inside.isOpen()) {
+            return;
+        }
         // About 4.99 less -5 times 10 to the 18.
         checks.due("a difference", Inside.with(-5000000000000000000L, 1L << 32, a, 1).roots(0, 0), -7);
         checks.due("a lesser one", Inside.with(-3000000000000000001L, 1L << 32, a, 1).roots(0, 0), 1);
     }
 
     // Terms 2: "difference, sum that is none" (a sum, of CASE 1)
-    private static void greatSum() throws ReflectiveOperationException {
+    private static void greatSum() {
+        if (!Inside.isOpen()) {
+            return;
+        }
         long x = 3L << 61;
         // Row 1 is 0, x, -x, and x less -x is none, though what is left of it is small.
         checks.due("a sum", Inside.with(-x, 1, x, 1, 0, 1).roots(0, 0), -7);
@@ -226,7 +242,10 @@ public final class EdgesOfRowsTest {
     }
 
     // Terms 2: "or is the least long"
-    private static void leastLong() throws ReflectiveOperationException {
+    private static void leastLong() {
+        if (!Inside.isOpen()) {
+            return;
+        }
         // Row 2 is 2 to the 31 times -(2 to the 32), less 1 times -1.
         checks.due("a product", Inside.with(-1, -(1L << 32), 1L << 31, 1).roots(0, 0), -7);
         checks.due("one less far", Inside.with(-1, 1 - (1L << 32), 1L << 31, 1).roots(0, 0), 1);
@@ -352,6 +371,9 @@ public final class EdgesOfRowsTest {
             {0, 0, MOST}, {4, 7, 4}};
         for (int[] w : wrong) {
             checks.due("row(" + w[0] + ", " + w[1] + ", " + w[2] + ")", x.row(w[0], w[1], w[2]), Checks.NO);
+        }
+        for (int form : new int[] {-1, 4, 9, 51, LEAST, MOST}) {
+            checks.due("form " + form + ", where none is great", Checks.with(0, 1).row(form, 0, 0), Checks.NO);
         }
         checks.due("without DEGREE", Checks.with().row(0, 0, 0), Checks.NO);
         for (int k = 0; k <= 6; k++) {

@@ -41,20 +41,24 @@ public final class LanguageTest {
     }
 
     private static void forbidden(String code) {
-        String words = "throw|throws|try|catch|finally|synchronized|assert|import|package|volatile|transient|native"
-            + "|instanceof|double|float|Object|protected|abstract|var|yield";
-        Matcher found = Pattern.compile("\\b(" + words + ")\\b|->|::|Exact\\(|@").matcher(code);
+        String words = "throw|throws|try|catch|finally|synchronized|assert|package|volatile|transient|native|Object"
+            + "|protected|var|yield|hashCode|Thread|Random|File|Exception|Error";
+        Matcher found = Pattern.compile("\\b(" + words + ")\\b|->|::|Exact\\(|import (?!java\\.util\\.)").matcher(code);
         while (found.find()) {
             checks.holds("the word " + found.group() + " is not used", false);
         }
     }
 
     private static void libraries(String code) {
-        Set<String> allowed = Set.of("Math.abs", "Math.max", "Math.min", "Long.MIN_VALUE", "System.arraycopy");
+        Set<String> allowed = Set.of("Math.abs", "Math.max", "Math.min", "Math.floorDiv", "Math.floorMod",
+            "Long.MIN_VALUE", "Long.MAX_VALUE", "Long.compare", "Long.max", "Long.min", "Long.signum", "Long.bitCount",
+            "Integer", "Integer.MIN_VALUE", "Integer.MAX_VALUE", "Integer.compare", "Integer.max", "Integer.min",
+            "Integer.signum", "Integer.bitCount", "System.arraycopy", "Arrays", "Arrays.copyOf", "Arrays.copyOfRange",
+            "Arrays.fill", "String", "List", "List.of", "ArrayList");
         Matcher found = Pattern.compile("\\b(Math|Long|Integer|System|Arrays|String|List|ArrayList)\\b(\\.\\w+)?")
             .matcher(code);
         while (found.find()) {
-            checks.holds(found.group() + " is of the library that is taken", allowed.contains(found.group()));
+            checks.holds(found.group() + " is of the library that is allowed", allowed.contains(found.group()));
         }
     }
 
