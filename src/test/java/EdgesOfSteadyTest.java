@@ -78,6 +78,25 @@ public final class EdgesOfSteadyTest {
         // By parts, too, though by whole numbers no SIGN ROWS are.
         x = of(p(13, 14, 26, 88, 67, 78), 7, 36, 98, 90, 86, 14);
         checks.due("by parts", x.steady(0, 16, 1210), 0);
+        // All gains one behind the other, so that rows of the last one may be left where those of the next break off.
+        eachGain(p(98, 35, 41, 59, 48, 82, 4), p(4, 6, 57, 50, 19, 9, 1), 0);
+        eachGain(p(22, 40, 38, 14, 61, 33, 85), p(70, 61, 77, 48, 74, 48, 99), 1);
+        eachGain(p(-98, -35, -41, -59, -48, -82, -4), p(-4, -6, -57, -50, -19, -9, -1), 0);
+        eachGain(p(-22, -40, -38, -14, -61, -33, -85), p(-70, -61, -77, -48, -74, -48, -99), 1);
+    }
+
+    private static void eachGain(int[] p, int[] q, int kind) {
+        SignTables x = of(p, q);
+        int form = kind == 0 ? 0 : 3;
+        int great = 0;
+        for (int k = -100; k <= 100; k++) {
+            x.gain(k);
+            boolean left = Polys.allLeft(Polys.form(x, form)) && x.degree(form, 1) == 0;
+            boolean isGreat = x.roots(form, 0) == -7;
+            great += left && isGreat ? 1 : 0;
+            checks.due("steady by " + k, x.steady(kind, 1, k), left && !isGreat ? 1 : 0);
+        }
+        checks.holds("some are great alone", great > 0);
     }
 
     // All roots lie as they should, but the SIGN ROWS are GREAT.
