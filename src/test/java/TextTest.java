@@ -1,3 +1,6 @@
+import java.util.regex.Matcher;
+import java.util.regex.Pattern;
+
 /** Promises 5 and 6: the tape and the texts on it. */
 public final class TextTest {
     private static final Checks checks = new Checks();
@@ -10,6 +13,7 @@ public final class TextTest {
         greatCoefficients();
         faultChangesNothing();
         everyPrefix();
+        againstExpressions();
         checks.end();
     }
 
@@ -167,5 +171,87 @@ public final class TextTest {
             boolean isText = n == 2 || n >= 3 && n <= 5 || n == 7 || n == 21;
             checks.holds("prefix " + n + ": " + got, isText ? got > 0 : got == -100 - n);
         }
+    }
+
+    private static final String TERM = "(?:\\d\\d?(?:s[1-6]?)?|s[1-6]?)";
+    private static final String TERMS = "-?" + TERM + "(?:[+-]" + TERM + ")*";
+    private static final Pattern TEXT = Pattern.compile(TERMS + "(?:[+-]K\\(" + TERMS + "\\))?");
+    private static final Pattern SIGNED = Pattern.compile("([+-]?)((\\d\\d?)?(s([1-6])?)?)");
+
+    // A text begins so, if the expression fits, or comes to the end of it before it can tell.
+    private static int misfit(String text) {
+        for (int n = 1; n <= text.length(); n++) {
+            Matcher begun = TEXT.matcher(text.substring(0, n));
+            if (!begun.matches() && !begun.hitEnd()) {
+                return n - 1;
+            }
+        }
+        return TEXT.matcher(text).matches() ? -1 : text.length();
+    }
+
+    private static int expected(String text, int[][] into) {
+        int misfit = misfit(text);
+        String sound = misfit < 0 ? text : text.substring(0, misfit);
+        int terms = 0;
+        int which = 0;
+        int turn = 1;
+        Matcher m = SIGNED.matcher(sound);
+        for (int at = 0; at < sound.length(); ) {
+            if (sound.charAt(at) == 'K' || sound.charAt(at) == '(' || sound.charAt(at) == ')') {
+                turn = sound.charAt(at) == 'K' && sound.charAt(at - 1) == '-' ? -1 : turn;
+                which = 1;
+                at++;
+                continue;
+            }
+            m.region(at, sound.length());
+            m.lookingAt();
+            at = m.end();
+            if (m.group(2).isEmpty()) {
+                continue;
+            }
+            terms++;
+            int number = m.group(3) == null ? 1 : Integer.parseInt(m.group(3));
+            int power = m.group(4) == null ? 0 : m.group(5) == null ? 1 : Integer.parseInt(m.group(5));
+            into[which][power] += m.group(1).equals("-") ? -number : number;
+            if (Math.abs(into[which][power]) > 99) {
+                return -100 - m.start(2);
+            }
+        }
+        for (int power = 0; power < 7; power++) {
+            into[1][power] *= turn;
+        }
+        return misfit < 0 ? terms : -100 - misfit;
+    }
+
+    private static String randomText(Polys random) {
+        String[] parts = {"s", "s", "+", "-", "+s", "-9", "+99s", "99", "5s2", "+K(", ")", "-K(", "K", "(", "1", "0", "7",
+            "s6", "-s3", "x", "+60s", "-60s"};
+        StringBuilder text = new StringBuilder();
+        int n = random.number(0, 9);
+        for (int i = 0; i < n; i++) {
+            text.append(parts[random.number(0, parts.length - (random.number(0, 2) == 0 ? 1 : 4))]);
+        }
+        return text.toString();
+    }
+
+    private static void againstExpressions() {
+        Polys random = new Polys(59);
+        int texts = 0;
+        int beyond = 0;
+        for (int round = 0; round < 40000; round++) {
+            String text = randomText(random);
+            int[][] into = new int[2][7];
+            int due = expected(text, into);
+            SignTables x = new SignTables();
+            checks.due("read " + text, Checks.read(x, text), due);
+            texts += due > 0 ? 1 : 0;
+            beyond += due < 0 && misfit(text) != -100 - due ? 1 : 0;
+            for (int power = 0; power < 7 && due > 0; power++) {
+                checks.due("P of " + text, x.of(0, power), into[0][power]);
+                checks.due("Q of " + text, x.of(1, power), into[1][power]);
+            }
+        }
+        checks.holds("there were texts: " + texts, texts > 1000);
+        checks.holds("there were coefficients beyond: " + beyond, beyond > 300);
     }
 }
