@@ -7,7 +7,7 @@ public final class EdgesOfChainTest {
     public static void main(String[] args) {
         leastDegree();
         firstTwoLinks();
-        aslongAsDegreeIsNoLess();
+        asLongAsDegreeIsNoLess();
         sizeOfTheHighest();
         turnedAboutFirst();
         whatIsLeftTurnedAbout();
@@ -65,7 +65,7 @@ public final class EdgesOfChainTest {
     }
 
     // Terms 4: "as long as DEGREE of A is no less than that of B"
-    private static void aslongAsDegreeIsNoLess() {
+    private static void asLongAsDegreeIsNoLess() {
         // s s s and 1: once s s s is gone, 1 is of less than s s.
         SignTables x = Checks.with(1, 0, 0, 1);
         isLink(x, 2, -1);
@@ -84,14 +84,14 @@ public final class EdgesOfChainTest {
         isLink(Checks.with(1, 0, -1), 2, -1);
         isLink(Checks.with(1, 0, 1), 2, -1);
         isLink(Checks.with(-1, 0, -1), 2, 1);
-        // A s 3, B s 2 with 3 as its highest: 3 of 7 s and 1 stays 7 s and 1, turned about.
+        // 3 times (-s s s and s and 1) and s times (3 s s less 1): 2 s and 3, turned about.
         isLink(Checks.with(1, 1, 0, -1), 2, -3, -2);
     }
 
     // Terms 4: "less A's highest (as it was ahead of that) times B's of POWER i, turned about first, if B's highest
     // is below 0;"
     private static void turnedAboutFirst() {
-        // -s s less s and 3: B is -2 s less 1; 2 A less s (2 s and 1), then 2 times that less (2 s and 1).
+        // -s s less s and 3, B is -2 s less 1: what is left is -s and 6 first, then 13.
         isLink(Checks.with(3, -1, -1), 2, -1);
         isLink(Checks.with(-3, -1, -1), 2, 1);
         isLink(Checks.with(3, 1, 1), 2, -1);

@@ -164,7 +164,7 @@ public final class EdgesOfRightsTest {
         checks.due("none", new SignTables().jumps(), 0);
         checks.due("none", Checks.with().jumps(), 0);
         checks.due("one", of(new int[] {0, 1}, 1).jumps(), 1);
-        // 1 and K of s: 0 by -2, no DEGREE above 0 by -1.
+        // (1 and K) s less 1: its root is left by -2, there is none by -1, right by 0.
         checks.due("where the highest goes", of(new int[] {-1, 1}, 0, 1).jumps(), 1);
     }
 

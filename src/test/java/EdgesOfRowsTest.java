@@ -268,7 +268,7 @@ public final class EdgesOfRowsTest {
     // Terms 2: "CHANGES from ROW i to ROW j: how many ROWS from i + 1 to j have ITEM 0 of another sign than the
     // ROW ahead of it."
     private static void changesBetween() {
-        // Rows begin with 1, -2, 1, -1.
+        // Rows begin with 3, -1, 1, -1.
         SignTables x = Checks.with(-6, 11, -6, 3);
         int[] signs = new int[4];
         for (int k = 0; k < 4; k++) {

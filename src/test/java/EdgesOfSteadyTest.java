@@ -136,7 +136,7 @@ public final class EdgesOfSteadyTest {
 
     // Terms 3: "K is STEADY: u 1, v K."
     private static void gainIsSteady() {
-        // 100 + K of 1 less 1: K is above -100 and 1.
+        // s, 99 and K: the root is left for K above -99.
         SignTables x = of(p(99, 1), 1);
         checks.due("-99", x.steady(0, 1, -99), 0);
         checks.due("-98", x.steady(0, 1, -98), 1);

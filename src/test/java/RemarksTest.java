@@ -19,7 +19,8 @@ public final class RemarksTest {
     private static final Checks checks = new Checks();
     private static final Path TESTS = Path.of("src/test/java");
     private static final Path DOCUMENT = Path.of("../shared/DOC.md");
-    private static final Pattern REMARK = Pattern.compile("(Promise \\d+|Terms \\d|In doubt|The constants): \"([^\"]*)\"");
+    private static final Pattern REMARK =
+        Pattern.compile("(Promise \\d+|Terms \\d|In doubt|The constants): \"([^\"]*)\"");
     private static final Pattern METHOD = Pattern.compile("private static void (\\w+)\\(");
 
     /** What names no boundary of its own. */

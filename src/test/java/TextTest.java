@@ -224,8 +224,8 @@ public final class TextTest {
     }
 
     private static String randomText(Polys random) {
-        String[] parts = {"s", "s", "+", "-", "+s", "-9", "+99s", "99", "5s2", "+K(", ")", "-K(", "K", "(", "1", "0", "7",
-            "s6", "-s3", "x", "+60s", "-60s"};
+        String[] parts = {"s", "s", "+", "-", "+s", "-9", "+99s", "99", "5s2", "+K(", ")", "-K(", "K", "(", "1", "0",
+            "7", "s6", "-s3", "x", "+60s", "-60s"};
         StringBuilder text = new StringBuilder();
         int n = random.number(0, 9);
         for (int i = 0; i < n; i++) {
