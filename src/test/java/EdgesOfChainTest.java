@@ -202,6 +202,11 @@ public final class EdgesOfChainTest {
         checks.due("at b", x.real(-1, 2), -7);
         checks.due("at neither", x.real(-1, 1), 101);
         checks.due("the links are not", x.links(), 2);
+        // Once it is none, what comes behind makes none of it again.
+        x = Inside.with(1, 0, (1L << 61) + 1);
+        checks.due("the first of two products", x.chain(20), -7);
+        checks.due("the first of two products", x.chain(-19), -7);
+        checks.due("neither", x.chain(0), 1);
         x = Inside.with(a + 1, a);
         checks.due("a sum", x.chain(1), -7);
         checks.due("a lesser one", x.chain(0), 0);
