@@ -748,8 +748,8 @@ public final class SignTables {
 
     /** A form of a polynomial, and its sign rows. */
     private static final class Table {
-        // One more than the longest row has, so that an item behind its end is there.
-        private static final int WIDTH = 5;
+        // As many items as the longest row has; what is beyond a row's end is kept 0.
+        private static final int WIDTH = POWERS / 2 + 1;
 
         final long[] coefficients = new long[POWERS];
         private final long[] lessOne = new long[POWERS];
@@ -839,10 +839,14 @@ public final class SignTables {
             for (int j = 0; j < WIDTH; j++) {
                 long item = 0;
                 if (j < width(k)) {
-                    item = Exact.less(Exact.times(b[0], a[j + 1]), Exact.times(a[0], b[j + 1]));
+                    item = Exact.less(Exact.times(b[0], behind(a, j)), Exact.times(a[0], behind(b, j)));
                 }
                 items[k][j] = b[0] < 0 ? -item : item;
             }
+        }
+
+        private static long behind(long[] row, int j) {
+            return j + 1 < row.length ? row[j + 1] : 0;
         }
 
         private int mendRow(int k) {
